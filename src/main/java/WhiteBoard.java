@@ -1555,7 +1555,6 @@ public final class WhiteBoard {
 
         void copy(Story other) {
             now.copy(other.now);
-            oldest = 0;
             acts = other.acts;
             for (int i = 0; i < acts; i++) {
                 slot(i).copy(other.slot(i));

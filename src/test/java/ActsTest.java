@@ -15,6 +15,7 @@ public final class ActsTest {
         undoing();
         latestActs();
         imaging();
+        imageOfSeen();
         lastDay();
         refusals();
         Check.end("ActsTest");
@@ -39,6 +40,7 @@ public final class ActsTest {
         Check.noSuch("master(-1, 0)", () -> x.master(-1, 0));
         Check.noSuch("master(0, 4)", () -> x.master(0, 4));
         Check.noSuch("master(0, -1)", () -> x.master(0, -1));
+        Check.due("ways whose gates are never open", Check.told("sea;sea;way 0 1 0;").place(0, 2), 1);
         int[][] places = {{9, 1, 1}, {0, 2, 2}, {-1, 4, 1}};
         for (int place = 0; place < 3; place++) {
             for (int what = 0; what < 3; what++) {
@@ -91,6 +93,14 @@ public final class ActsTest {
         Check.noSuch("grudge(0, 3)", () -> x.grudge(0, 3));
         grudge("goods*100+debt", 5010);
         grudge("foe*10+friend", 10);
+        WhiteBoard ties = Check.told("master 10;master 20;place 1;person 50 0;person 60 0;person 70 0;"
+            + "friend 0 1;foe 0 2;foe 1 0;writes friend*1000+foe*100+debt;");
+        int[][] due = {{10, 1010, 110}, {120, 20, 20}};
+        for (int m = 0; m < 2; m++) {
+            for (int p = 0; p < 3; p++) {
+                Check.due("friend and foe of " + m + ", " + p, ties.grudge(m, p), due[m][p]);
+            }
+        }
         grudge("day*1000+sales*100+listed*10+kin", 0);
         grudge("7-2-1", 4);
         grudge("100/7/2", 7);
@@ -111,6 +121,12 @@ public final class ActsTest {
         grudge("2=1+1", 1);
         grudge("5 and 7", 1);
         grudge("5 and 0", 0);
+        grudge("0 and 5", 0);
+        grudge("1 and 1", 1);
+        grudge("1 and 2", 1);
+        grudge("0 and 0", 0);
+        grudge("1 or 0", 1);
+        grudge("2 or 2", 1);
         grudge("0 or 7", 1);
         grudge("0 or 0", 0);
         grudge("1 or 0 and 0", 1);
@@ -191,6 +207,7 @@ public final class ActsTest {
         Check.due("struck off: the day", x.person(1, 3), -1);
         Check.due("struck off: by whom", x.person(1, 4), -1);
         Check.due("strike again", x.strike(1), -1);
+        Check.due("refused again", x.count(15), 2);
         x.mornings(2);
         Check.due("strike a master's name", x.strike(0), 0);
         x.open(false);
@@ -223,6 +240,7 @@ public final class ActsTest {
     private static void undoing() {
         WhiteBoard x = Check.told(THREE);
         Check.due("nothing to undo", x.undo(), -1);
+        Check.due("is no refused act", x.count(15), 0);
         x.mornings(3);
         x.go(1, 1);
         x.strike(1);
@@ -301,6 +319,32 @@ public final class ActsTest {
         Check.due("open behind 44 acts", x.count(9), 1);
         x.undo();
         Check.due("closed behind 43 acts", x.count(9), 0);
+    }
+
+    private static void imageOfSeen() {
+        WhiteBoard x = Check.told(THREE);
+        x.see(2, 0, true);
+        x.see(1, 3, true);
+        x.image();
+        x.forget();
+        x.see(2, 0, false);
+        x.see(0, 0, true);
+        Check.due("not so", x.scribe(2), 0);
+        x.restore();
+        Check.due("seen", x.count(12), 2);
+        Check.due("so", x.scribe(2), 1);
+        x.forget();
+        x.see(1, 1, true);
+        x.image();
+        x.forget();
+        x.see(1, 2, true);
+        Check.due("by day 2", x.scribe(2), 1);
+        x.restore();
+        Check.due("not by day 1", x.scribe(2), 0);
+        x.forget();
+        x.see(2, 1, true);
+        x.restore();
+        Check.due("not 1 by day 1", x.scribe(2), 0);
     }
 
     private static void lastDay() {

@@ -130,6 +130,10 @@ public final class ForecastTest {
         WhiteBoard past = Check.told("master 50;place 9;person 10 0;");
         past.mornings(2);
         Check.due("from now on", past.richest(), -1);
+        WhiteBoard little = Check.told("master 50;master 0;place 9;person 1 0;");
+        Check.due("1 is more than nothing", little.richest(), 0);
+        WhiteBoard nothing = Check.told("master 50;place 9;person 0 0;writes 1;");
+        Check.due("nothing is none", nothing.richest(), -1);
         WhiteBoard own = Check.told("master 50;master 0;place 9;person 10 0;");
         own.mornings(1);
         Check.due("a name that stands already", own.richest(), 0);
@@ -182,6 +186,7 @@ public final class ForecastTest {
         row("owes behind the last day", new int[] {91}, i -> x.owes(0, 30));
         Check.due("close(0)", x.close(0), 49);
         Check.due("close(1)", x.close(1), 60);
+        Check.due("stay to day 59", x.stay(0, 0), 59);
         Check.due("stay on day 60", x.stay(1, 0), -1);
         x.mornings(20);
         row("no morning: when", new int[] {49, 50}, i -> x.when(i, 0));

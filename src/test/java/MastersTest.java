@@ -66,6 +66,23 @@ public final class MastersTest {
         listsAre("at first", x, 12345, 2, 0, 150, 0);
         listsAre("at first", x, 12345, 5, 2, 84, 0);
         listsAre("1 brings nothing as the third", x, 12345, 60, 3, 84, 1);
+        WhiteBoard many = Check.told("master 300;master 200;master 100;"
+            + "place 1;place 9;place 4;place 2;place 3;place 8;place 6;"
+            + "person 30 0;person 1 1;person 99 2;person 0 3;person 50 4;person 64 0;person 7 5;person 81 2;person 12 6;");
+        listsAre("many", many, 0, 7, 4, 528, 1);
+        listsAre("many", many, 0, 15, 6, 461, 1);
+        listsAre("many", many, 1, 7, 4, 514, 2);
+        listsAre("many", many, 1, 15, 6, 430, 2);
+        listsAre("many", many, 7, 7, 3, 478, 0);
+        listsAre("many", many, 7, 15, 7, 387, 0);
+        listsAre("many", many, -77, 7, 4, 484, 1);
+        listsAre("many", many, -77, 15, 7, 400, 2);
+        listsAre("many", many, Integer.MIN_VALUE, 15, 6, 461, 1);
+        listsAre("many", many, 999999999, 7, 5, 470, 1);
+        listsAre("many", many, 999999999, 15, 8, 443, 2);
+        WhiteBoard one = Check.told("master 50;place 1;person 30 0;");
+        listsAre("one and one", one, 9, 3, 0, 50, 0);
+        listsAre("one and one", one, 9, 20, 1, 20, 0);
         x.mornings(20);
         x.undo();
         x.write(0);

@@ -112,7 +112,10 @@ public final class ScribeTest {
         answers("behind the last morning", x, 2, 0, 0, 0, 2);
         x.forget();
         answers("two mornings", x, 4, 0, 1, 0, 3);
-        x.mornings(2);
+        x.mornings(1);
+        Check.due("the last morning alone", x.tells(1), 2);
+        answers("the last morning", x, 2, 0, 1, 0, 2);
+        x.mornings(1);
         answers("no morning", x, 0, -1, 1, -1, 0);
         x.see(0, 0, true);
         answers("no morning, as it is", x, 0, -1, 0, -1, 0);

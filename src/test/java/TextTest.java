@@ -6,6 +6,7 @@ public final class TextTest {
     public static void main(String[] args) {
         tape();
         boards();
+        allAnew();
         tokens();
         lines();
         tooMany();
@@ -43,8 +44,8 @@ public final class TextTest {
         x.mornings(2);
         x.see(0, 1, true);
         x.image();
-        Check.due("a FAULT's number", Check.tell(x, "place 1;sea sea;"), 1);
-        Check.due("a FAULT's place", x.fault(), 12);
+        Check.due("a FAULT's number", Check.tell(x, "sea;sea;sea;sea;foe;"), 1);
+        Check.due("a FAULT's place", x.fault(), 19);
         Check.due("tape behind a FAULT", x.count(13), 0);
         Check.due("places behind a FAULT", x.count(1), 2);
         Check.due("day behind a FAULT", x.count(4), 2);
@@ -52,7 +53,7 @@ public final class TextTest {
         Check.due("seen behind a FAULT", x.count(12), 1);
         Check.due("STATUS 0", x.count(14), 1);
         Check.illegal("board(9)", () -> x.board(9));
-        Check.due("fault behind board() that threw", x.fault(), 12);
+        Check.due("fault behind board() that threw", x.fault(), 19);
         Check.due("STATUS 0 behind board() that threw", x.count(14), 1);
         Check.due("image behind a FAULT", x.restore(), true);
         Check.due("a new board", Check.tell(x, "place 1;person 4 0;"), 0);
@@ -69,6 +70,36 @@ public final class TextTest {
         Check.due("people of the empty board", x.count(3), 0);
     }
 
+    /** Nothing of a board is left behind the next ones. */
+    private static void allAnew() {
+        String full = "master 5;master 6;master 7;place 9;place 9;place 9;way 0 1 9;way 1 2 9;way 0 2 9;"
+            + "person 9 0;person 8 0;person 7 0;kin 0 1;kin 1 2;kin 2 0;friend 0 0;friend 1 1;foe 2 2;"
+            + "foe 0 1;foe 1 0;friend 2 0;writes foe;";
+        WhiteBoard x = Check.told(full);
+        Check.due("full again", Check.tell(x, full), 0);
+        x.mornings(5);
+        x.open(false);
+        Check.due("dead", x.count(6), 7);
+        Check.due("full once more", Check.tell(x, full), 0);
+        x.mornings(5);
+        x.open(false);
+        Check.due("a short one", Check.tell(x, "master 1;place 0;place 2;person 3 0;person 4 0;"), 0);
+        int[] counts = {1, 2, 0, 2, 0, 0, 0, 0, 0, 1, 0, 0, 0, 0, 0, 0, 0};
+        for (int what = 0; what < counts.length; what++) {
+            Check.due("a short one: count(" + what + ")", x.count(what), counts[what]);
+        }
+        Check.due("no friends", x.master(0, 1), 0);
+        Check.due("no foes", x.master(0, 2), 0);
+        Check.due("no kin", x.person(0, 2), 0);
+        Check.due("no rule", x.grudge(0, 1), 4);
+        Check.due("no ways", x.far(0, 1), -1);
+        Check.due("limits begin anew", Check.tell(x, full), 0);
+        Check.due("limits begin anew, with all", Check.tell(x, full.substring(0, full.length() - 11)
+            + "friend 1 2;foe 2 1;friend 0 2;"), 0);
+        Check.due("a rule anew", Check.tell(x, "master 1;place 0;person 3 0;writes friend+foe+kin;"), 0);
+        Check.due("the new rule", x.grudge(0, 0), 0);
+    }
+
     private static void tokens() {
         Check.fault("", 0, -1);
         Check.fault(" \n \n", 0, -1);
@@ -76,6 +107,10 @@ public final class TextTest {
         Check.fault("master\n 0007 \n;", 0, -1);
         Check.fault("master 00007;", 2, 7);
         Check.fault("master\t7;", 1, 6);
+        Check.fault("master`7;", 1, 6);
+        Check.fault("master{7;", 1, 6);
+        Check.fault("master 1:2;", 1, 8);
+        Check.fault("master 1/2;", 1, 8);
         Check.fault("Master 7;", 1, 0);
         Check.fault("maste 7;", 1, 0);
         Check.fault("masters 7;", 1, 0);
@@ -170,6 +205,7 @@ public final class TextTest {
         Check.fault(TWO + "way 1 1 1;", 4, 22);
         Check.fault(TWO + "way 0 1 1;way 0 1 2;", 4, 32);
         Check.fault(TWO + "way 0 1 1;way 1 0 2;", 4, 32);
+        Check.fault(TWO + "way 0 1 0;way 0 1 2;", 4, 32);
         Check.fault(TWO + "place 3;way 0 1 1;way 1 2 1;way 0 2 1;", 0, -1);
         Check.fault(PAIR + "kin 1 1;", 4, 36);
         Check.fault(PAIR + "kin 0 1;kin 1 0;", 4, 44);
@@ -189,7 +225,9 @@ public final class TextTest {
         Check.fault("writes 1 10000;", 1, 9);
         Check.fault("writes x;", 3, 7);
         Check.fault("writes master;", 3, 7);
-        Check.fault("writes or;", 3, 7);
+        for (String word : "master place sea way person writes or and".split(" ")) {
+            Check.fault("writes " + word + ";", 3, 7);
+        }
         Check.fault("writes 1 or and;", 3, 12);
         Check.fault("writes 1 + not 1;", 3, 11);
         Check.fault("writes 1 < not 1;", 3, 11);

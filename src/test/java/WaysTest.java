@@ -117,6 +117,9 @@ public final class WaysTest {
         Check.due("not as many days as that", x.surest(0, 1), 5);
         WhiteBoard y = Check.told("master 0;place 9;place 9;sea;way 0 1 2;way 1 2 2;person 50 0;");
         Check.due("through the worse, to be away", y.surest(0, 3), 100);
+        WhiteBoard shut = Check.told("place 9;sea;way 0 1 0;person 50 0;");
+        shut.write(0);
+        Check.due("the first way is shut", shut.surest(0, 2), 1);
         WhiteBoard away = Check.told("place 9;sea;way 0 1 60;person 50 1;");
         away.write(0);
         Check.due("away", away.surest(0, 2), 100);
