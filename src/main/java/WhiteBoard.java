@@ -33,14 +33,14 @@ public final class WhiteBoard {
     private int bytes;
     private int faultPlace = NONE;
     private final int[] status = new int[3];
-    private final Reader reader = new Reader();
     private Board board = new Board();
     /** A TEXT is read into this one, so that a FAULT leaves the other as it is. */
     private Board spare = new Board();
+    private final Reader reader = new Reader(spare);
     private final Story story = new Story();
     private final Story image = new Story();
     private boolean hasImage;
-    private final Forecast forecast = new Forecast();
+    private final Forecast forecast = new Forecast(board);
     private final Inquiry inquiry = new Inquiry();
     private final Lottery lottery = new Lottery();
 
@@ -1128,9 +1128,13 @@ public final class WhiteBoard {
         private static final int MOST_NOTS = 6;
 
         private final Tokens tokens = new Tokens();
-        private Board board = new Board();
+        private Board board;
         private int fault;
         int faultPlace = NONE;
+
+        Reader(Board first) {
+            board = first;
+        }
 
         /** Answers 0, or the FAULT; its place is kept. */
         int read(int[] text, int length, Board into) {
@@ -1608,7 +1612,7 @@ public final class WhiteBoard {
     /** Lets MORNINGS go by on a moment of its own, and keeps what happens in them. */
     private static final class Forecast {
         final Moment then = new Moment();
-        private Board board = new Board();
+        private Board board;
         /** What is otherwise than told: one whom nobody writes, a closing, a name put in by the scribe. */
         int passedOver;
         int closedAfter;
@@ -1624,6 +1628,10 @@ public final class WhiteBoard {
         final int[] brought = new int[MOST_MASTERS];
         final int[] foundIn = new int[AHEAD];
         private final int[] lists = new int[AHEAD];
+
+        Forecast(Board first) {
+            board = first;
+        }
 
         void begin(Board itsBoard, Moment from) {
             board = itsBoard;

@@ -10,6 +10,7 @@ public final class ScribeTest {
         relative();
         closed();
         telling();
+        thirtiethMorning();
         lastDays();
         Check.end("ScribeTest");
     }
@@ -100,6 +101,15 @@ public final class ScribeTest {
         x.see(1, 4, false);
         x.see(2, 6, true);
         answers("2 from 1 to 6", x, 6, 201, 0, 1, 2);
+    }
+
+    /** By the day on which 0 is put in, it is sold ahead of 1, between 1 and 2, or behind them: three debts. */
+    private static void thirtiethMorning() {
+        WhiteBoard x = Check.told("master 999;place 0;person 0 0;person 50 0;person 51 0;"
+            + "person 1 0;person 2 0;person 3 0;writes (day=3)*(goods=50) or (day=6)*(goods=51) or "
+            + "(day=29)*((debt=914)*(goods=1)+(debt=909)*(goods=2)+(debt=904)*(goods=3));");
+        x.see(0, 28, true);
+        answers("the thirtieth morning", x, 10, 0, 0, 29, 3);
     }
 
     private static void lastDays() {
