@@ -727,7 +727,7 @@ public final class WhiteBoard {
             return left;
         }
 
-        /** From the last DAY back to this one, the best chance from every PLACE. */
+        /** From the last of these DAYS back to this one, the best chance from every PLACE. */
         int surestChance(int place, int today, int days, int written) {
             fill(best, 1);
             for (int day = today + days - 1; day >= today; day--) {
@@ -741,9 +741,9 @@ public final class WhiteBoard {
             return at(best, place);
         }
 
-        /** On the last DAY and behind it there is no MORNING in which one could be found. */
+        /** Each DAY that is asked about has its MORNING here, the last one and those behind it, too. */
         private int tenthsUnfound(int place, int written, int day) {
-            if (isSea(place) || written == NONE || written > day || day >= LAST_DAY) {
+            if (isSea(place) || written == NONE || written > day) {
                 return 10;
             }
             return 10 - at(danger, place);

@@ -465,7 +465,7 @@ public final class Model {
                     }
                     there = way[0] + way[1] - place;
                 }
-                boolean safe = text.isSea(there) || written < 0 || written > day || day > 59;
+                boolean safe = text.isSea(there) || written < 0 || written > day;
                 int tenths = safe ? 10 : 10 - text.dangers.get(there);
                 best = Math.max(best, tenths * chance(written, there, day + 1, days - 1, known));
             }

@@ -43,9 +43,14 @@ public final class ModelTest {
         StringBuilder told = new StringBuilder("seed " + seed + ": ");
         List<Method> questions = questions();
         tell(told, x, model, text(random));
+        // Few runs come near the last day by themselves.
+        boolean isLate = seed % 3 == 2;
         for (int call = 0; call < 300; call++) {
             if (random.nextInt(120) == 0) {
                 tell(told, x, model, text(random));
+            }
+            if (isLate && x.count(4) == 0 && random.nextInt(3) == 0) {
+                leap(told, x, model, random.nextInt(21));
             }
             Method method = questions.get(random.nextInt(questions.size()));
             boolean isBack = "restore undo forget".contains(method.getName()) && random.nextInt(4) != 0;
@@ -74,6 +79,14 @@ public final class ModelTest {
         Check.due(told + "fault", x.fault(), model.fault());
         for (int what = 0; what < 17; what++) {
             Check.due(told + "count " + what, x.count(what), model.count(what));
+        }
+    }
+
+    /** On to day 40, and so many mornings more. */
+    private static void leap(StringBuilder told, WhiteBoard x, Model model, int more) {
+        for (int many : new int[] {20, 20, more}) {
+            told.append("mornings ").append(many).append("; ");
+            Check.due(told.toString(), x.mornings(many), model.mornings(many));
         }
     }
 

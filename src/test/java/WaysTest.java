@@ -12,6 +12,7 @@ public final class WaysTest {
         surest();
         surestOnGates();
         surestLastDays();
+        surestWrittenLast();
         far();
         refuge();
         wrongCalls();
@@ -126,15 +127,45 @@ public final class WaysTest {
         Check.due("at a danger of 0 for ever", Check.told("place 0;person 1 0;").surest(0, 1), 10);
     }
 
-    /** On day 60, and behind it, there is no MORNING: nobody is found there. */
+    /** Each day from now on has its morning there, the last one and those behind it, too. */
     private static void surestLastDays() {
-        WhiteBoard x = Check.told("place 4;person 1 0;");
+        WhiteBoard x = Check.told("place 4;place 2;sea;way 0 1 60;way 0 2 59;person 1 0;person 1 2;");
+        toDay58(x);
+        x.write(0);
+        x.write(1);
+        Check.due("two mornings by the sea", x.surest(0, 2), 100);
+        Check.due("nine by the sea", x.surest(0, 9), 1000000000);
+        x.mornings(1);
+        Check.due("on day 59 by the other way", x.surest(0, 1), 8);
+        Check.due("and two behind it", x.surest(0, 3), 512);
+        x.mornings(1);
+        Check.due("on day 60 all gates are shut", x.surest(0, 1), 6);
+        Check.due("nine days from day 60 on", x.surest(0, 9), 10077696);
+        Check.due("away on day 60", x.surest(1, 9), 1000000000);
+        x.strike(0);
+        Check.due("not on the list on day 60", x.surest(0, 9), 1000000000);
+        x.write(0);
+        Check.due("written on day 60", x.surest(0, 2), 36);
+    }
+
+    private static void surestWrittenLast() {
+        WhiteBoard x = Check.told("master 0;place 4;person 9 0;writes day=59;");
+        toDay58(x);
+        Check.due("ahead of the day on which it is written", x.surest(0, 1), 10);
+        Check.due("on day 59", x.surest(0, 2), 60);
+        Check.due("on day 60", x.surest(0, 3), 360);
+        Check.due("on day 66", x.surest(0, 9), 16796160);
+        x.mornings(2);
+        Check.due("as it was on day 59", x.surest(0, 2), 36);
+        WhiteBoard y = Check.told("master 0;place 4;person 9 0;writes day=60;");
+        toDay58(y);
+        Check.due("no master writes on day 60", y.surest(0, 9), 1000000000);
+    }
+
+    private static void toDay58(WhiteBoard x) {
         x.mornings(20);
         x.mornings(20);
         x.mornings(18);
-        x.write(0);
-        Check.due("two mornings", x.surest(0, 2), 36);
-        Check.due("two mornings of four days", x.surest(0, 4), 3600);
     }
 
     private static void far() {
