@@ -1,10 +1,13 @@
 import java.io.IOException;
+import java.lang.reflect.Array;
 import java.lang.reflect.Field;
 import java.lang.reflect.Method;
 import java.lang.reflect.Modifier;
 import java.nio.charset.StandardCharsets;
 import java.nio.file.Files;
 import java.nio.file.Path;
+import java.util.Collections;
+import java.util.IdentityHashMap;
 import java.util.Set;
 import java.util.TreeSet;
 import java.util.regex.Matcher;
@@ -30,6 +33,8 @@ public final class LanguageTest {
         }
         classes();
         methods(source);
+        made(source);
+        room();
         Check.end("LanguageTest");
     }
 
@@ -68,5 +73,55 @@ public final class LanguageTest {
             Check.due("sixty lines at most, not " + lines + " in " + matcher.group().trim().split("\n")[0], lines <= 60, true);
         }
         Check.due("methods were found", many > 100, true);
+    }
+
+    /** Calls make nothing but exceptions: all else is a field's, or one of the acts that a constructor makes room for. */
+    private static void made(String source) {
+        int many = 0;
+        for (String line : source.split("\n")) {
+            if (Pattern.compile("\\bnew\\b").matcher(line).find()) {
+                many++;
+                boolean isThrown = line.matches(" +(default: )?throw new \\w+\\(\"[^\"]*\"\\);");
+                boolean isField = line.matches("( {4}| {8})(private |final |private final )\\w+(\\[\\])? \\w+ = new .*;");
+                boolean isAct = line.trim().equals("kept[i] = new Moment();");
+                Check.due("made in a call: " + line.trim(), isThrown || isField || isAct, true);
+            }
+        }
+        Check.due("things that are made were found", many > 60, true);
+    }
+
+    /** All calls of a run live in one room: an object takes so much that a run may have hundreds of them. */
+    private static void room() {
+        long[] taken = new long[2];
+        count(new WhiteBoard(), taken, Collections.newSetFromMap(new IdentityHashMap<>()));
+        Check.due("objects and arrays of one WhiteBoard, " + taken[0] + ", are at most 600", taken[0] <= 600, true);
+        Check.due("fields and elements of one WhiteBoard, " + taken[1] + ", are at most 14000", taken[1] <= 14000, true);
+        Check.due("objects and arrays were found", taken[0] > 100, true);
+    }
+
+    private static void count(Object one, long[] taken, Set<Object> counted) {
+        if (one == null || !counted.add(one)) {
+            return;
+        }
+        taken[0]++;
+        try {
+            if (one.getClass().isArray()) {
+                int length = Array.getLength(one);
+                taken[1] += length;
+                for (int i = 0; i < length && !one.getClass().getComponentType().isPrimitive(); i++) {
+                    count(Array.get(one, i), taken, counted);
+                }
+                return;
+            }
+            for (Field field : one.getClass().getDeclaredFields()) {
+                if (!Modifier.isStatic(field.getModifiers())) {
+                    taken[1]++;
+                    field.setAccessible(true);
+                    count(field.getType().isPrimitive() ? null : field.get(one), taken, counted);
+                }
+            }
+        } catch (IllegalAccessException e) {
+            throw new IllegalStateException(e);
+        }
     }
 }
